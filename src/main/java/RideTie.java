@@ -284,7 +284,7 @@ public final class RideTie {
         if (!aimIsAsTold(aim, t) || what < 0 || what > 3) {
             return OUTSIDE;
         }
-        return best.isSearched() ? best.numberOf(best.pick(aim, t), what) : STATE;
+        return best.searchOnce() ? best.numberOf(best.pick(aim, t), what) : STATE;
     }
 
     public int row(int x, int aim, int t, int k, int p) {
@@ -295,7 +295,7 @@ public final class RideTie {
         if (!aimIsAsTold(aim, t)) {
             return OUTSIDE;
         }
-        if (!best.isSearched()) {
+        if (!best.searchOnce()) {
             return STATE;
         }
         int code = best.numberOf(best.pick(aim, t), Best.CODE);
@@ -307,7 +307,7 @@ public final class RideTie {
         if (best == null) {
             return UNKNOWN;
         }
-        if (!best.isSearched()) {
+        if (!best.searchOnce()) {
             return STATE;
         }
         int fairest = best.numberOf(best.pick(2, NONE), 0);
@@ -319,7 +319,7 @@ public final class RideTie {
         if (best == null) {
             return UNKNOWN;
         }
-        return best.isSearched() ? best.fewestTies() : STATE;
+        return best.searchOnce() ? best.fewestTies() : STATE;
     }
 
     public int rows(int x) {
@@ -327,7 +327,7 @@ public final class RideTie {
         if (best == null) {
             return UNKNOWN;
         }
-        return best.isSearched() ? best.rightRows : STATE;
+        return best.searchOnce() ? best.rightRows : STATE;
     }
 
     // ---- 4 even
@@ -1116,7 +1116,7 @@ public final class RideTie {
         }
 
         /** False: there are more rows than are gone through. */
-        boolean isSearched() {
+        boolean searchOnce() {
             if (road.hasManyRows()) {
                 return false;
             }
@@ -1138,7 +1138,7 @@ public final class RideTie {
             explore(0, 0);
         }
 
-        /** The rows that begin as cells do up to PIECE k, in their order. */
+        /** The rows that begin as cells do ahead of PIECE k, in their order. */
         private void explore(int k, int code) {
             if (!road.hasPiece(k)) {
                 return;
@@ -1146,14 +1146,19 @@ public final class RideTie {
             int choices = Road.power(road.beasts + 1, road.people);
             for (int choice = 0; choice < choices; choice++) {
                 choose(k, choice);
-                if (journey.goOn(k, cells) == NONE) {
-                    int longer = code * choices + choice;
-                    if (k + 1 == road.pieces) {
-                        weigh(longer);
-                    } else {
-                        explore(k + 1, longer);
-                    }
-                }
+                goFurther(k, code * choices + choice);
+            }
+        }
+
+        /** Nothing that begins with a WRONG PIECE is looked at. */
+        private void goFurther(int k, int code) {
+            if (journey.goOn(k, cells) != NONE) {
+                return;
+            }
+            if (k + 1 == road.pieces) {
+                weigh(code);
+            } else {
+                explore(k + 1, code);
             }
         }
 

@@ -52,6 +52,8 @@ public final class PlansTest {
         Checks.due("road", x.plan(0, -1, 0, 0, 3, 0, 0, 4), none);
         Checks.due("refused, so no fault", x.fault(), 0);
         Checks.due("kind", x.plan(3, 0, 0, 0, 3, 0, -1, -1), outside);
+        Checks.due("kind", x.plan(3, 0, 1, 0, 3, 0, -1, -1), outside);
+        Checks.due("kind", x.plan(3, 0, 1, 9, 3, 0, -1, -1), outside);
         Checks.due("kind", x.plan(-1, 0, 0, 0, 3, 0, -1, -1), outside);
         Checks.due("lane", x.plan(0, 0, 0, 0, 3, 3, -1, -1), outside);
         Checks.due("lane", x.plan(0, 0, 0, 0, 3, -1, -1, -1), outside);
