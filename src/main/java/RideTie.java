@@ -584,7 +584,7 @@ public final class RideTie {
         }
 
         int at(int i) {
-            return hasCell(i) ? cells[i] : 0;
+            return i >= 0 && i < length && i < cells.length ? cells[i] : 0;
         }
 
         void write(int i, int v) {
@@ -702,7 +702,12 @@ public final class RideTie {
                     return place;
                 }
                 place++;
-                int found = readOne();
+                int found = place;
+                if (code() == 'p' && road.people < MOST_PEOPLE && road.beasts == 0) {
+                    found = readPerson();
+                } else if (code() == 'b' && road.people > 0 && road.beasts < MOST_BEASTS) {
+                    found = readBeast();
+                }
                 if (found != NONE) {
                     return found;
                 }
@@ -710,22 +715,11 @@ public final class RideTie {
             return place;
         }
 
-        private int readOne() {
-            if (code() == 'p' && road.people < MOST_PEOPLE && road.beasts == 0) {
-                place++;
-                road.people++;
-                return readPerson((road.people - 1) * PERSON_NUMBERS);
-            }
-            if (code() == 'b' && road.people > 0 && road.beasts < MOST_BEASTS) {
-                place++;
-                road.beasts++;
-                return readBeast((road.beasts - 1) * BEAST_NUMBERS);
-            }
-            return place;
-        }
-
-        private int readPerson(int first) {
+        private int readPerson() {
+            int first = road.people * PERSON_NUMBERS;
             int found = NONE;
+            road.people++;
+            place++;
             for (int j = 0; j < PERSON_NUMBERS && found == NONE; j++) {
                 int low = j == FAR ? 0 : 1;
                 int high = j == FAR ? 99 : MOST_PACE;
@@ -734,8 +728,11 @@ public final class RideTie {
             return found;
         }
 
-        private int readBeast(int first) {
+        private int readBeast() {
+            int first = road.beasts * BEAST_NUMBERS;
             int found = NONE;
+            road.beasts++;
+            place++;
             for (int j = 0; j < BEAST_NUMBERS && found == NONE; j++) {
                 int low = j == STANDS ? 0 : j == LIMIT ? 9 : 1;
                 int high = j == HOLDS ? 2 : j == STANDS ? 30 : j == LIMIT ? 99 : MOST_PACE;
@@ -803,11 +800,13 @@ public final class RideTie {
         }
 
         int ofPersons(int p, int what) {
-            return hasPerson(p) && what >= 0 && what < PERSON_NUMBERS ? persons[p * PERSON_NUMBERS + what] : 0;
+            return p >= 0 && p < people && p < MOST_PEOPLE && what >= 0 && what < PERSON_NUMBERS
+                ? persons[p * PERSON_NUMBERS + what] : 0;
         }
 
         int ofMounts(int b, int what) {
-            return hasBeast(b) && what >= 0 && what < BEAST_NUMBERS ? mounts[b * BEAST_NUMBERS + what] : 0;
+            return b >= 0 && b < beasts && b < MOST_BEASTS && what >= 0 && what < BEAST_NUMBERS
+                ? mounts[b * BEAST_NUMBERS + what] : 0;
         }
 
         int allMiles() {
@@ -1122,12 +1121,13 @@ public final class RideTie {
             }
             // nothing but who is LAME can make other rows the best
             if (!wasSearched || !road.isLame(lamePerson, lameFrom)) {
-                searchAll();
+                forgetAll();
+                explore(0, 0);
             }
             return true;
         }
 
-        private void searchAll() {
+        private void forgetAll() {
             wasSearched = true;
             lamePerson = road.lamePerson;
             lameFrom = road.lameFrom;
@@ -1135,7 +1135,6 @@ public final class RideTie {
             for (int i = 0; i < table.length; i++) {
                 table[i] = NONE;
             }
-            explore(0, 0);
         }
 
         /** The rows that begin as cells do ahead of PIECE k, in their order. */
@@ -1146,19 +1145,13 @@ public final class RideTie {
             int choices = Road.power(road.beasts + 1, road.people);
             for (int choice = 0; choice < choices; choice++) {
                 choose(k, choice);
-                goFurther(k, code * choices + choice);
-            }
-        }
-
-        /** Nothing that begins with a WRONG PIECE is looked at. */
-        private void goFurther(int k, int code) {
-            if (journey.goOn(k, cells) != NONE) {
-                return;
-            }
-            if (k + 1 == road.pieces) {
-                weigh(code);
-            } else {
-                explore(k + 1, code);
+                // nothing that begins with a WRONG PIECE is looked at any further
+                boolean isRight = journey.goOn(k, cells) == NONE;
+                if (isRight && k + 1 < road.pieces) {
+                    explore(k + 1, code * choices + choice);
+                } else if (isRight) {
+                    weigh(code * choices + choice);
+                }
             }
         }
 

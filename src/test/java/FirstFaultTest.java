@@ -1,14 +1,5 @@
-import java.util.regex.Matcher;
-import java.util.regex.Pattern;
-
-/** Promise 2 on many spoilt TEXTS: the FIRST FAULT, found from the words of the document by patterns. */
+/** Promise 2 on many spoilt TEXTS. */
 public final class FirstFaultTest {
-    private static final String NUMBER = "[0-9]{1,2}";
-    // the ; ahead of what can't come there is let stand
-    private static final Pattern SHAPE = Pattern.compile("m([1-9][0-2]){1,6}"
-        + "(;p" + NUMBER + "(," + NUMBER + "){3}){1,4}"
-        + "(;b" + NUMBER + "(," + NUMBER + "){5}){0,2}");
-    private static final Pattern SHAPE_WITH_END = Pattern.compile(SHAPE.pattern() + ";?");
     private static final String CODES = "mpb;,0123456789x";
 
     public static void main(String[] args) {
@@ -22,7 +13,10 @@ public final class FirstFaultTest {
             if (text.length() > 120) {
                 text.setLength(120);
             }
-            int want = firstFault(text.toString());
+            if (FirstFault.isUnclear(text.toString())) {
+                continue;
+            }
+            int want = FirstFault.of(text.toString());
             fine += want < 0 ? 1 : 0;
             RideTie x = new RideTie();
             Checks.due("road by " + text, Checks.read(x, text.toString()), want < 0 ? 0 : -100 - want);
@@ -52,50 +46,5 @@ public final class FirstFaultTest {
                     text.setCharAt(place, code);
                 }
         }
-    }
-
-    /** Below 0: none. */
-    private static int firstFault(String text) {
-        int place = 0;
-        while (place < text.length() && goesOn(text.substring(0, place + 1))) {
-            place++;
-        }
-        int number = firstWrongNumber(text.substring(0, place));
-        if (number >= 0) {
-            return number;
-        }
-        boolean isWhole = place == text.length() && SHAPE.matcher(text).matches();
-        return isWhole ? -1 : place;
-    }
-
-    private static boolean goesOn(String start) {
-        Matcher matcher = SHAPE_WITH_END.matcher(start);
-        return matcher.matches() || matcher.hitEnd();
-    }
-
-    private static int firstWrongNumber(String start) {
-        int place = 0;
-        for (String part : start.split(";", -1)) {
-            int inner = place + 1;
-            String[] numbers = part.isEmpty() || part.charAt(0) == 'm' ? new String[0] : part.substring(1).split(",", -1);
-            for (int j = 0; j < numbers.length; j++) {
-                if (!numbers[j].isEmpty() && !isAsTold(part.charAt(0), j, Integer.parseInt(numbers[j]))) {
-                    return inner;
-                }
-                inner += numbers[j].length() + 1;
-            }
-            place += part.length() + 1;
-        }
-        return -1;
-    }
-
-    private static boolean isAsTold(char who, int j, int number) {
-        if (j < 3) {
-            return number >= 1 && number <= 60;
-        }
-        if (who == 'p') {
-            return true;
-        }
-        return j == 3 ? number == 1 || number == 2 : j == 4 ? number <= 30 : number >= 9;
     }
 }

@@ -1,3 +1,5 @@
+import java.util.Arrays;
+
 /** A TEXT that is as told, and the numbers that it tells. */
 final class Text {
     int[] miles;
@@ -42,6 +44,29 @@ final class Text {
         }
         text.codes = codes.toString();
         return text;
+    }
+
+    /** Of codes that are as told. */
+    static Text of(String codes) {
+        Text text = new Text();
+        text.codes = codes;
+        String[] parts = codes.split(";");
+        int pieces = (parts[0].length() - 1) / 2;
+        text.miles = new int[pieces];
+        text.grounds = new int[pieces];
+        for (int k = 0; k < pieces; k++) {
+            text.miles[k] = parts[0].charAt(1 + 2 * k) - '0';
+            text.grounds[k] = parts[0].charAt(2 + 2 * k) - '0';
+        }
+        text.people = rowsOf(parts, 'p');
+        text.beasts = rowsOf(parts, 'b');
+        return text;
+    }
+
+    private static int[][] rowsOf(String[] parts, char who) {
+        return Arrays.stream(parts).filter(part -> part.charAt(0) == who)
+            .map(part -> Arrays.stream(part.substring(1).split(",")).mapToInt(Integer::parseInt).toArray())
+            .toArray(int[][]::new);
     }
 
     private static void append(Dice dice, StringBuilder codes, int[] numbers) {
