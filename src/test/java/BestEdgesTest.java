@@ -12,9 +12,11 @@ public final class BestEdgesTest {
         eachAimByItself();
         ofSeveralTheLeastLast();
         ofSeveralTheFirstRow();
+        theFirstRowWithMoreTies();
         costOfFairness();
         fewestTies();
         asLameAsItIsNow();
+        eachChangeOfWhoIsLame();
         eachRoadByItself();
         Checks.end();
     }
@@ -216,6 +218,28 @@ public final class BestEdgesTest {
         Checks.due("rows", z.rows(0), 2);
     }
 
+    /** Fewer ties are no better, as long as so many are let in. */
+    private static void theFirstRowWithMoreTies() {
+        RideTie x = Checks.with("m101010;p1,1,1,1;b1,1,1,1,0,99");
+        for (int aim = 0; aim < 2; aim++) {
+            for (int k = 0; k < 3; k++) {
+                Checks.due("with a tie", x.row(0, aim, NONE, k, 0), k < 2 ? 1 : 0);
+                Checks.due("with a tie", x.row(0, aim, 1, k, 0), k < 2 ? 1 : 0);
+                Checks.due("without", x.row(0, aim, 0, k, 0), 1);
+            }
+            numbersAre(x, aim, 3, 3, 1, 1);
+        }
+        numbersAre(x, 2, 3, 3, 0, 0);
+        RideTie y = Checks.with("m1010;p8,1,1,99;p5,1,1,99;b2,1,1,1,0,99");
+        int[][] rows = {{1, 0, 1, 0}, {0, 1, 1, 0}};
+        for (int t = 0; t < 2; t++) {
+            for (int i = 0; i < 4; i++) {
+                Checks.due("row with " + t, y.row(0, 0, t, i / 2, i % 2), rows[t][i]);
+            }
+        }
+        numbersAre(y, 0, 10, 7, 1, 1);
+    }
+
     private static void costOfFairness() {
         Checks.due("27 to 28", Checks.with("m2010;p20,20,20,99;p9,9,9,99;b4,4,4,1,0,99").cost(0), 1);
         Checks.due("nothing", Checks.with("m1010;p30,1,1,99;p30,1,1,99;b10,1,1,1,0,99").cost(0), 0);
@@ -230,11 +254,12 @@ public final class BestEdgesTest {
         RideTie x = Checks.with("m1011;p9,3,1,99;b5,9,1,1,0,99");
         Checks.due("LAST", x.best(0, 0, NONE, 0), 8);
         Checks.due("fewest", x.fewest(0), 1);
-        // the first row of the best has a tie, another has none: it is the least t, not that row's TIES
-        RideTie y = Checks.with("m1010;p5,5,5,99;p4,4,4,99;b4,4,4,1,0,99");
+        // the first row of the best has a tie, a later one has none: it is the least t, not that row's TIES
+        RideTie y = Checks.with("m1010;p8,1,1,99;p5,1,1,99;b2,1,1,1,0,99");
+        Checks.due("LAST", y.best(0, 0, NONE, 0), 10);
+        Checks.due("TIES of the first row", y.best(0, 0, NONE, 3), 1);
+        Checks.due("as soon with none", y.best(0, 0, 0, 0), 10);
         Checks.due("fewest", y.fewest(0), 0);
-        int soonest = y.best(0, 0, NONE, 0);
-        Checks.due("as soon with none", y.best(0, 0, 0, 0), soonest);
         RideTie z = Checks.with("m101010;p5,5,5,99;p9,9,9,99;b5,5,5,1,0,99");
         Checks.due("LAST", z.best(0, 0, NONE, 0), 15);
         Checks.due("fewest", z.fewest(0), 0);
@@ -255,6 +280,23 @@ public final class BestEdgesTest {
         x.lame(0, NONE, 0);
         Checks.due("LAST", x.best(0, 0, NONE, 0), 10);
         Checks.due("rows", x.rows(0), 3);
+    }
+
+    /** Another PERSON from the same PIECE on, the same one from another PIECE on, nobody. */
+    private static void eachChangeOfWhoIsLame() {
+        int[][] lame = {{0, 0}, {1, 0}, {1, 1}, {0, 1}, {0, 0}, {NONE, 0}, {1, 1}, {1, 0}, {NONE, 0}, {0, 1}};
+        RideTie x = Checks.with("m1020;p10,1,1,99;p10,1,1,99");
+        Checks.due("LAST", x.best(0, 0, NONE, 0), 30);
+        Checks.due("FIRST", x.best(0, 0, NONE, 1), 30);
+        RideTie y = Checks.with("m1020;p10,1,1,99;p30,1,1,99");
+        for (int[] told : lame) {
+            x.lame(0, told[0], told[1]);
+            y.lame(0, told[0], told[1]);
+            int more = told[0] == NONE ? 0 : told[1] == 0 ? 30 : 20;
+            Checks.due("LAST", x.best(0, 0, NONE, 0), 30 + more);
+            Checks.due("LAST", y.best(0, 0, NONE, 0), 90 + (told[0] == 1 ? 3 * more : 0));
+            Checks.due("FIRST", y.best(0, 0, NONE, 1), 30 + (told[0] == 0 ? more : 0));
+        }
     }
 
     private static void eachRoadByItself() {

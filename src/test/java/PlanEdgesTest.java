@@ -20,8 +20,10 @@ public final class PlanEdgesTest {
         standsBeyondItsLimit();
         limitIsCountedSinceItStood();
         ridersWaitForAllAndForTheBeast();
+        eachPairWaits();
         itStaysWhereItIsLeft();
         meetAtEachGate();
+        meetOfFour();
         restAtItsEnds();
         aBeastStandsWhileTheyMeet();
         wrongOfEachPieceAndPerson();
@@ -355,6 +357,33 @@ public final class PlanEdgesTest {
         outcomeIs(w, 0, 14, 10, 1, 1, 0);
     }
 
+    /** Whoever of four it is who comes last, the other rider waits. */
+    private static void eachPairWaits() {
+        for (int late = 0; late < 4; late++) {
+            for (int other = 0; other < 4; other++) {
+                if (late == other) {
+                    continue;
+                }
+                StringBuilder text = new StringBuilder("m1010");
+                for (int p = 0; p < 4; p++) {
+                    text.append(p == late ? ";p50,1,1,99" : ";p5,1,1,99");
+                }
+                int[] cells = new int[8];
+                cells[other] = 1;
+                cells[4 + late] = 1;
+                cells[4 + other] = 1;
+                RideTie x = Checks.planned(text + ";b2,2,2,2,9,99", cells);
+                for (int p = 0; p < 4; p++) {
+                    boolean rides = p == late || p == other;
+                    Checks.due("went", x.went(0, p, 1), rides ? 50 : 5);
+                    Checks.due("there", x.there(0, p, 1), p == late ? 50 : p == other ? 2 : 5);
+                    Checks.due("there", x.there(0, p, 2), rides ? 52 : 10);
+                }
+                Checks.due("came", x.came(0, 0, 2), 52);
+            }
+        }
+    }
+
     private static void itStaysWhereItIsLeft() {
         String text = "m101010;p5,5,5,99;p5,5,5,99;b2,2,2,2,1,99";
         int[][] cells = {{0, 0, 0, 0, 0, 0}, {1, 0, 0, 0, 0, 0}, {1, 0, 0, 1, 0, 0}, {1, 0, 0, 1, 1, 0}};
@@ -390,6 +419,27 @@ public final class PlanEdgesTest {
                     }
                 }
                 Checks.due("came(" + q + ", " + gate + ")", x.came(q, 0, gate), came[q][gate]);
+            }
+        }
+    }
+
+    /** All of four, as the last of them is, and nobody ahead of it. */
+    private static void meetOfFour() {
+        for (int last = 0; last < 4; last++) {
+            RideTie x = new RideTie();
+            String text = "m101010" + ";p5,1,1,99".repeat(last) + ";p9,1,1,99" + ";p5,1,1,99".repeat(3 - last);
+            Checks.due("road", Checks.read(x, text), 0);
+            Checks.due("MEET", Checks.draw(x, 1, 0, 2, 0, new int[12]), 0);
+            Checks.due("REST", Checks.draw(x, 2, 0, 2, 7, new int[12]), 1);
+            for (int q = 0; q < 2; q++) {
+                for (int p = 0; p < 4; p++) {
+                    int pace = p == last ? 9 : 5;
+                    int met = 18 + 7 * q;
+                    int[] there = {0, pace, met, met + pace};
+                    for (int gate = 0; gate < 4; gate++) {
+                        Checks.due("there(" + q + ", " + p + ", " + gate + ")", x.there(q, p, gate), there[gate]);
+                    }
+                }
             }
         }
     }

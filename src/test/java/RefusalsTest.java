@@ -18,6 +18,7 @@ public final class RefusalsTest {
     private static final int[] NO_NUMBERS = {-1, 3, 4, 10, NONE, MAX, MIN};
 
     public static void main(String[] args) {
+        worldIsAsItTells();
         road();
         roadOfCells();
         ofRoadAndItsParts();
@@ -38,6 +39,28 @@ public final class RefusalsTest {
         tellCallAs();
         many();
         Checks.end();
+    }
+
+    private static void worldIsAsItTells() {
+        RideTie x = World.fill();
+        Checks.due("fault()", x.fault(), World.LEFT);
+        Checks.due("trace()", x.trace(), 2 * 31 + 1);
+        int[] many = {1, 3, 2, 1};
+        int[] wrong = {NONE, NONE, 101};
+        for (int what = 0; what < 4; what++) {
+            Checks.due("many(" + what + ")", x.many(what), many[what]);
+        }
+        for (int q = 0; q < 3; q++) {
+            Checks.due("wrong(" + q + ")", x.wrong(q), wrong[q]);
+            Checks.due("kind", x.ofPlan(q, 0), q);
+        }
+        for (int i = 0; i < World.CELLS.length; i++) {
+            Checks.due("cell of SHEET 2", x.cell(2, i, 2), World.CELLS[i]);
+        }
+        Checks.due("SHEET 1 has nothing", x.lose(1), 0);
+        Checks.due("LAME", x.ofRoad(0, 4), 1);
+        Checks.due("GONE", x.gone(5), 5);
+        Checks.hold("no two of such are unlike", World.seen(x).equals(World.seen(World.fill())));
     }
 
     private static void road() {

@@ -1,9 +1,12 @@
+import java.util.Set;
+
 /** "1 ROADS" of the document, sentence by sentence: the last that is let in and the first that is not. */
 public final class RoadEdgesTest {
     private static final String PERSON = ";p1,1,1,1";
     private static final String BEAST = ";b1,1,1,1,1,9";
 
     public static void main(String[] args) {
+        newObjectHasNothing();
         threeEver();
         wrongTextsTakeNoNumber();
         onePieceToSix();
@@ -43,6 +46,30 @@ public final class RoadEdgesTest {
         return x;
     }
 
+    /** No ROADS, PLANS, SHEETS: each call by nothing but 0. */
+    private static void newObjectHasNothing() {
+        Set<String> unknown = Set.of("ofRoad", "ofPiece", "ofPerson", "ofBeast", "lame", "walks", "rides", "plan",
+            "ofPlan", "does", "wrong", "there", "came", "went", "outcome", "walked", "best", "row", "cost", "fewest",
+            "rows", "tell", "call", "as");
+        Set<String> ofNothing = Set.of("road", "put", "copy");
+        Set<String> lost = Set.of("safe", "even", "share", "cell");
+        for (String name : Calls.NAMES) {
+            RideTie x = new RideTie();
+            long due = unknown.contains(name) ? RideTie.UNKNOWN : ofNothing.contains(name) ? -11
+                : lost.contains(name) ? RideTie.LOST : name.equals("gone") || name.equals("sheet") ? 1 : 0;
+            Checks.due(name + " of a new object", Calls.make(x, name, new int[8]), due);
+            Checks.due("fault() behind " + name, x.fault(), ofNothing.contains(name) || name.equals("cell") ? 1 : 0);
+            for (int what = 0; what < 4; what++) {
+                Checks.due("many(" + what + ") behind " + name, x.many(what), 0);
+            }
+            Checks.due("trace() behind " + name, x.trace(), 0);
+            Checks.due("gone() behind " + name, x.gone(1), name.equals("gone") ? 0 : 1);
+            for (int k = 0; k < 4; k++) {
+                Checks.due("lose() behind " + name, x.lose(k), k == 0 && name.equals("sheet") ? 1 : 0);
+            }
+        }
+    }
+
     private static void threeEver() {
         RideTie x = new RideTie();
         String[] texts = {"m10" + PERSON, "m2010" + PERSON + PERSON + BEAST, "m30" + PERSON + BEAST + BEAST};
@@ -55,6 +82,12 @@ public final class RoadEdgesTest {
         Checks.due("fault() behind FULL", x.fault(), 0);
         Checks.due("a fourth again", Checks.read(x, "m40" + PERSON), RideTie.FULL);
         Checks.due("FIRST FAULT comes ahead of FULL", Checks.read(x, "m40;p"), -105);
+        Checks.due("INDEX comes ahead of FULL", x.road(1, 0, 0, 6), -13);
+        Checks.due("SIZE comes ahead of FULL", x.road(1, 0, 0, -1), -14);
+        Checks.due("CAST comes ahead of FULL", x.road(1, 1, 0, 5), -12);
+        Checks.due("NULL comes ahead of FULL", x.road(2, 1, 0, 5), -11);
+        Checks.due("LANE comes ahead of FULL", x.road(1, 3, 0, 5), RideTie.OUTSIDE);
+        Checks.due("SHEET comes ahead of FULL", x.road(4, 0, 0, 5), RideTie.UNKNOWN);
         int[] due = {3, 0, 4, 3};
         for (int what = 0; what < 4; what++) {
             Checks.due("many(" + what + ")", x.many(what), due[what]);
@@ -299,6 +332,9 @@ public final class RoadEdgesTest {
         fault("m10" + PERSON + BEAST + ",1", 12 + 13);
         fault("m10" + PERSON + " ", 12);
         fault(" m10" + PERSON, 0);
+        fault(PERSON, 0);
+        fault(";m10" + PERSON, 0);
+        fault("10" + PERSON, 0);
         fault("mm10" + PERSON, 1);
         fault("m10p1,1,1,1", 3);
         fault("m10;;p1,1,1,1", 4);

@@ -250,6 +250,11 @@ public final class SheetEdgesTest {
             Checks.due("refused bodies leave nothing", x.tell(3) + x.call(3) + x.tell(-1) + x.call(-1), -4);
             Checks.due("trace", x.trace(), due);
         }
+        // its own cells alone: not those that stand ahead of them and behind them in the SHEET
+        RideTie z = Checks.with("m1010;p1,1,1,99;b1,1,1,2,0,99");
+        Checks.write(z, 0, 0, 1, 1, 0, 1, 1, 1);
+        Checks.due("plan", z.plan(0, 0, 0, 0, 0, 0, 2, 2), 0);
+        Checks.due("tell", z.tell(0), 1);
         // the number of that PLAN: the last of ten
         RideTie y = Checks.with("m10;p1,1,1,99");
         for (int q = 0; q < 10; q++) {
